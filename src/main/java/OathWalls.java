@@ -42,18 +42,18 @@ public final class OathWalls {
     private int laid;
 
     public OathWalls() {
-        tape = new Tape();
-        reader = new Reader(tape);
-        wall = new Wall();
-        deeds = new Deeds(wall);
-        whatIf = new WhatIf(wall);
-        teller = new Teller(deeds);
         town = new City();
         draft = new City();
-        now = new Moment();
-        before = new Moment();
         told = new Told();
         spare = new Told();
+        tape = new Tape();
+        reader = new Reader(tape, draft, spare);
+        wall = new Wall();
+        deeds = new Deeds(wall);
+        whatIf = new WhatIf(wall, town);
+        teller = new Teller(deeds);
+        now = new Moment();
+        before = new Moment();
         past = new Moment[MOST_UNDONE];
         for (int i = 0; i < MOST_UNDONE; i++) {
             past[i] = new Moment();
@@ -583,9 +583,11 @@ public final class OathWalls {
         private int number;
         private int found;
 
-        Reader(Tape tape) {
+        Reader(Tape tape, City city, Told life) {
             this.tape = tape;
-            this.lawReader = new LawReader(tape);
+            this.city = city;
+            this.life = life;
+            this.lawReader = new LawReader(tape, city.law);
         }
 
         int readCity(City into) {
@@ -909,8 +911,9 @@ public final class OathWalls {
         private boolean partIsDue;
         private Law law;
 
-        LawReader(Tape tape) {
+        LawReader(Tape tape, Law law) {
             this.tape = tape;
+            this.law = law;
         }
 
         /** 0, or the kind of the fault that the tape's token is. */
@@ -1016,7 +1019,8 @@ public final class OathWalls {
             if (tape.isWord(Tape.NOT)) {
                 return Law.NOT;
             }
-            return tape.kind == Tape.WORD && tape.word >= Tape.BASE ? Law.BASE - (tape.word - Tape.BASE) : Law.BAD;
+            boolean fact = tape.kind == Tape.WORD && tape.word >= Tape.BASE;
+            return fact ? Law.BASE - (tape.word - Tape.BASE) : Law.BAD;
         }
 
         private int jointCode() {
@@ -1441,7 +1445,7 @@ public final class OathWalls {
             int tail = reach(stone, 0, 0);
             int seenOaths = rest[stone];
             int seenStones = 1 << stone;
-            for (int head = 0; head < tail; head++) {
+            for (int head = 0; head < tail && head < MOST_OATHS; head++) {
                 int oath = queue[head];
                 if (left[oath] > 0) {
                     return moveOver(stone, oath, need);
@@ -1588,8 +1592,9 @@ public final class OathWalls {
         private int chosenUp;
         private int chosenKept;
 
-        WhatIf(Wall wall) {
+        WhatIf(Wall wall, City city) {
             this.wall = wall;
+            this.city = city;
         }
 
         void forget() {
@@ -1922,17 +1927,20 @@ public final class OathWalls {
             int drawn = draw();
             if (drawn >= city.faith[person]) {
                 int his = city.owned[person] & ~city.sureOnes & ~moment.broken;
-                if (his != 0) {
-                    deeds.crack(city, moment, Integer.numberOfTrailingZeros(his));
-                    cracked++;
-                }
+                cracked += deeds.crack(city, moment, firstOf(his)) ? 1 : 0;
             } else if (drawn == 0) {
-                int his = city.owned[person] & moment.broken;
-                if (his != 0) {
-                    deeds.pardon(city, moment, Integer.numberOfTrailingZeros(his));
-                }
+                deeds.pardon(city, moment, firstOf(city.owned[person] & moment.broken));
             }
             fallen += Integer.bitCount(was & ~moment.up);
+        }
+
+        private static int firstOf(int set) {
+            for (int o = 0; o < MOST_OATHS; o++) {
+                if ((set >> o & 1) != 0) {
+                    return o;
+                }
+            }
+            return NONE;
         }
 
         private int draw() {
