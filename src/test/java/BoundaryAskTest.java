@@ -382,8 +382,8 @@ public final class BoundaryAskTest {
         down.hear(0, true);
         is("both can't be", down.broken(10, 0), NONE);
         OathWalls two = CHECK.of(ST);
-        two.hear(0, true);
         two.hear(1, true);
+        two.hear(0, true);
         is("neither a nor b", two.broken(10, 0) * 10 + two.broken(10, 2), 10);
         OathWalls none = CHECK.of(AB + "stone s weighs 10 rent 5 on b;stone t weighs 10 rent 7 on a;");
         none.hear(1, false);

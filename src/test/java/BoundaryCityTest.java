@@ -436,7 +436,7 @@ public final class BoundaryCityTest {
     /** All that can be told, done and asked, and cities with faults; then another city is as in a new object. */
     private static void nothingIsLeft() {
         CHECK.sentence("3", "Without a FAULT a CITY is the CITY from then on");
-        String rich = lines(6, "person p# faith9tempt9;") + "oath a sure by pa bears9;oath b sure by pb bears9;oath c old by pf bears9;"
+        String rich = lines(6, "person p# faith9tempt9;") + "oath a sure by pb bears9;oath b sure by pa bears9;oath c old by pa bears9;"
                 + "oath d widow by pf bears9;lean a b;lean c d;clash a c;clash b d;clash a d;stone s weighs9rent9on a b c d;"
                 + "stone t weighs9rent9on s a;stone u weighs9rent9on s t b;age base*9+alone;mend 9;";
         String plain = "person p faith 2 tempt 3;person q faith 4 tempt 5;oath a plain by p bears 7;oath b plain by q bears 8;oath c old by q bears 6;"

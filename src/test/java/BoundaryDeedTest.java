@@ -203,8 +203,11 @@ public final class BoundaryDeedTest {
         is("13 and 8", CHECK.of(AB + "stone s weighs 13 rent 0 on a b;stone t weighs 8 rent 0 on a;").count(5), 1);
         is("each moves over", CHECK.of(AB + "oath c plain by p bears 10;stone s weighs 10 rent 0 on a b;stone t weighs 10 rent 0 on b c;"
                 + "stone u weighs 10 rent 0 on a;").count(5), 3);
+        is("one that moved another one moves, too", CHECK.of(P + "oath a plain by p bears 5;oath b plain by p bears 5;oath c plain by p bears 5;"
+                + "oath d plain by p bears 5;stone r weighs 5 rent 0 on c d;stone s weighs 5 rent 0 on a b;stone t weighs 5 rent 0 on a c;"
+                + "stone u weighs 5 rent 0 on b;").count(5), 4);
         is("a row of ten moves over", CHECK.of(row()).count(5), 10);
-        for (int seed = 1; seed <= 400; seed++) {
+        for (int seed = 1; seed <= 4000; seed++) {
             shares(new Random(seed));
         }
         CHECK.sentence("3", "by those of its STONES that are up and what these rest on, and so on");
