@@ -798,15 +798,15 @@ public final class OathWalls {
         }
 
         private boolean readMend() {
-            if (city.mendTold) {
+            if (city.law.isMendTold) {
                 return wrong(AGAIN);
             }
             tape.next();
             if (!takeNumber(0, 10)) {
                 return false;
             }
-            city.mend = number;
-            city.mendTold = true;
+            city.law.mend = number;
+            city.law.isMendTold = true;
             return takeEnd();
         }
 
@@ -919,7 +919,7 @@ public final class OathWalls {
         /** 0, or the kind of the fault that the tape's token is. */
         int read(Law into) {
             law = into;
-            law.begin();
+            law.renew();
             top = 0;
             depth = 0;
             open = 0;
@@ -1068,7 +1068,7 @@ public final class OathWalls {
         }
     }
 
-    /** How much an oath bears as it ages: the E told, or what holds without one. */
+    /** How much an oath bears as it ages, and once forgiven: as told, or what holds untold. */
     private static final class Law {
         // Numbers stand for themselves, all else is below 0.
         static final int BASE = -1;
@@ -1087,7 +1087,10 @@ public final class OathWalls {
         static final int BAD = -14;
 
         static final int MOST_STRENGTH = 999;
+        static final int MEND_UNTOLD = 5;
 
+        int mend = MEND_UNTOLD;
+        boolean isMendTold;
         boolean isTold;
         private final int[] codes = new int[Tape.MOST];
         private int size;
@@ -1096,7 +1099,9 @@ public final class OathWalls {
         final int[] noted = new int[2 * MOST_OATHS];
         final int[] notedYear = new int[2 * MOST_OATHS];
 
-        void clear() {
+        void reset() {
+            mend = MEND_UNTOLD;
+            isMendTold = false;
             isTold = false;
             size = 0;
             for (int i = 0; i < notedYear.length; i++) {
@@ -1104,7 +1109,7 @@ public final class OathWalls {
             }
         }
 
-        void begin() {
+        void renew() {
             isTold = true;
             size = 0;
         }
@@ -1171,8 +1176,6 @@ public final class OathWalls {
 
     /** A city as it was told: what never changes while it is the city. */
     private static final class City {
-        static final int MEND_UNTOLD = 5;
-
         int people;
         final long[] personNames = new long[MOST_PEOPLE];
         final int[] faith = new int[MOST_PEOPLE];
@@ -1192,8 +1195,6 @@ public final class OathWalls {
         final int[] rent = new int[MOST_STONES];
         final int[] onOaths = new int[MOST_STONES];
         final int[] onStones = new int[MOST_STONES];
-        int mend = MEND_UNTOLD;
-        boolean mendTold;
         final Law law = new Law();
 
         void clear() {
@@ -1204,9 +1205,7 @@ public final class OathWalls {
             for (int i = 0; i < MOST_PEOPLE; i++) {
                 owned[i] = 0;
             }
-            mend = MEND_UNTOLD;
-            mendTold = false;
-            law.clear();
+            law.reset();
         }
 
         void addOath(long name, int itsKind, int itsOwner, int itsBase) {
@@ -1247,7 +1246,7 @@ public final class OathWalls {
             }
             int strength = law.noted[2 * oath + alone];
             if ((moment.forgiven >> oath & 1) != 0) {
-                strength = strength * mend / 10;
+                strength = strength * law.mend / 10;
             }
             return other == NONE ? strength : strength + 5;
         }
